@@ -676,6 +676,11 @@ public final class PromiseTest {
         race.step(1);
         race.step(0);
         Check.due("turnOf", race.turnOf(), 3);
+        for (int left = 2; left >= 0; left--) {
+            Check.due("undo", race.undo(), left);
+        }
+        Check.due("pass in a script", Check.run(race, "pass;step east;pass;"), 2);
+        Check.due("turnOf", race.turnOf(), 2);
         PawnRace over = Check.read("pawn a 2 3 north;pawn b 0 4 south;");
         Check.illegalState("a can step", over::pass);
         over.step(0);
