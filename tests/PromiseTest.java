@@ -25,6 +25,7 @@ public final class PromiseTest {
         ways();
         gates();
         waysWithBans();
+        longestWaysWithBans();
         waysByModulus();
         leader();
         advised();
@@ -37,6 +38,7 @@ public final class PromiseTest {
         playSteps();
         playWalls();
         report();
+        longestReport();
         undo();
         undoScript();
         saveAndRestore();
@@ -489,6 +491,26 @@ public final class PromiseTest {
         Check.due("finished", done.detour(0), 0);
     }
 
+    /** Texts that a search found: the least number is just 200 (the distance is 9, round a block), and 230. */
+    private static void longestWaysWithBans() {
+        PawnRace last = Check.read("board 9 9;pawn a 4 0 north;block 2 3 level;block 2 7 upright;block 6 1 upright;"
+            + "block 3 4 level;ban a north every 5 at 2;ban a north every 3 at 2;ban a back;ban a west every 2 at 0;"
+            + "ban a east every 2 at 0;ban a back;ban a east every 4 at 1;ban a west from 5 1 to 5 1;"
+            + "ban a north every 4 at 1;ban a east every 2 at 0;");
+        Check.due("stepsWithBans", last.stepsWithBans(0), 200);
+        Check.due("detour", last.detour(0), 191);
+        Check.due("waysWithBans 199", last.waysWithBans(0, 199), 0);
+        Check.due("waysWithBans 200", last.waysWithBans(0, 200) > 0, true);
+        PawnRace over = Check.read("board 9 9;pawn a 4 0 north;block 5 2 level;block 2 7 upright;block 0 6 upright;"
+            + "block 7 3 upright;block 4 0 level;block 6 2 upright;block 6 1 level;block 1 6 level;block 6 7 level;"
+            + "block 1 1 upright;block 2 5 level;block 4 2 upright;ban a north every 5 at 0;ban a east every 3 at 2;"
+            + "ban a east every 4 at 2;ban a east every 3 at 1;ban a north every 2 at 0;ban a north every 3 at 0;"
+            + "ban a again;");
+        Check.due("stepsWithBans", over.stepsWithBans(0), NONE);
+        Check.due("detour", over.detour(0), NONE);
+        Check.due("waysWithBans 200", over.waysWithBans(0, 200), 0);
+    }
+
     /** Without bans the walk over three columns up to a row can be counted by numbers too. */
     private static void waysByModulus() {
         PawnRace race = Check.read("board 3 3;pawn a 0 0 north;");
@@ -778,6 +800,33 @@ public final class PromiseTest {
         Check.outOfBounds("it stays", () -> done.reportByte(16));
         Check.due("bytes", done.report(), 91);
         Check.due("the last byte", done.reportByte(90), '\n');
+    }
+
+    /** Walls at all 64 places, level and upright by turns: 40 blocks, and 24 that two pawns build. */
+    private static void longestReport() {
+        StringBuilder text = new StringBuilder("board 9 9;pawn a 8 1 south walls 12;pawn b 0 7 north walls 12;");
+        StringBuilder due = new StringBuilder();
+        for (int i = 0; i < 64; i++) {
+            int x = i % 8;
+            int y = i / 8;
+            boolean upright = (x + y) % 2 == 1;
+            due.append(upright ? '|' : '-').append(x).append(y);
+            if (i < 40) {
+                text.append("block").append(x).append(' ').append(y).append(upright ? "upright;" : "level;");
+            }
+        }
+        PawnRace race = Check.read(text.toString());
+        for (int i = 40; i < 64; i++) {
+            Check.due("walls left", race.build(i % 8, i / 8, (i % 8 + i / 8) % 2 == 1), 11 - (i - 40) / 2);
+        }
+        String rows = ".........\n";
+        String report = rows + "1........\n" + rows.repeat(5) + "........0\n" + rows + due + "\n";
+        Check.due("report", Check.report(race), report);
+        Check.due("bytes", race.report(), 283);
+        Check.due("walls", race.setting(3), 64);
+        Check.due("admissible", race.admissible(), 0);
+        Check.due("bestWall", race.bestWall(0), NONE);
+        Check.due("play", race.play(1, 99), 1);
     }
 
     private static void undo() {

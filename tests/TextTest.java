@@ -91,7 +91,8 @@ public final class TextTest {
         Check.due("blocks", race.setting(3), 3);
         Check.due("width", race.setting(0), 5);
         Check.due("height", race.setting(1), 5);
-        good("pawn abcdefgh 0 0 north;pawn abcdefg 1 0 north;", 2);
+        good("pawn abcdefgh 0 0 north;pawn abcdefg 1 0 north;pawn z 2 0 north;pawn az 3 0 north;", 4);
+        good("pawn ab 0 0 north;pawn bb 1 0 north;pawn aa 2 0 north;", 3);
         // a board may be read behind walls and in another size than the one before
         race = good("walls 3;board 9 3;pawn a 8 2 west;", 1);
         Check.due("walls", race.pawn(0, 3), 3);
@@ -102,6 +103,10 @@ public final class TextTest {
         bad("^;", 1);
         bad("^5;", 1);
         bad("^Board 5 5;", 1);
+        bad("^goard 5 5;", 1);
+        bad("^boare 5 5;", 1);
+        bad("^boar 5 5;", 1);
+        bad("^zlock 0 0 level;", 1);
         bad("board 5 5^", 1);
         bad("board 5 5  ^", 1);
         bad("board 5^", 1);

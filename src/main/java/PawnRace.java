@@ -632,6 +632,7 @@ public final class PawnRace {
 
         /** The wall at a place; NONE also if there is no such place. */
         int wallOn(int x, int y) {
+            // hasPlace() is written out, since calls may go eight deep only and this one is the eighth in a script
             boolean isPlace = x >= 0 && x < width - 1 && y >= 0 && y < height - 1;
             return isPlace ? built[y * PLACE_ROW + x] : NONE;
         }
@@ -1126,7 +1127,11 @@ public final class PawnRace {
         }
     }
 
-    /** Finds admissible and best walls, advises steps, and plays by itself. */
+    /**
+     * Finds admissible and best walls, advises steps, and plays by itself.
+     *
+     * It mostly calls spread() where measure() would do: calls may go eight deep only, and in a script they do.
+     */
     private static final class Planner {
         private final Ways ways;
         /** By pawn and cell: the directions of one shortest way of the pawn through it, both ways. */
