@@ -483,6 +483,10 @@ public final class PromiseTest {
         Check.due("detour", none.detour(0), NONE);
         Check.due("waysWithBans", none.waysWithBans(0, 200), 0);
         Check.due("stepsWithBans", none.stepsWithBans(1), 4);
+        // from the first and the last cell of the greatest board
+        Check.due("cell 0, 0", Check.read("pawn a 0 0 north;ban a north from 0 0 to 0 0;").stepsWithBans(0), 5);
+        Check.due("cell 8, 8",
+            Check.read("board 9 9;pawn a 8 8 south;ban a south from 8 8 to 8 8;").stepsWithBans(0), 9);
         PawnRace done = Check.read("pawn a 2 3 north;pawn b 4 0 west;ban a back;");
         done.step(0);
         Check.due("finished", done.stepsWithBans(0), 0);
