@@ -45,7 +45,7 @@ public final class TextTest {
         Check.illegalArgument("a byte 255", () -> race.readText());
     }
 
-    private static PawnRace good(String text, int pawns) {
+    static PawnRace good(String text, int pawns) {
         PawnRace race = new PawnRace();
         Check.fill(race, text);
         Check.due("readText of " + text, Check.outcome(race::readText), Integer.toString(pawns));
@@ -54,7 +54,7 @@ public final class TextTest {
         return race;
     }
 
-    private static void bad(String text, int code, int position) {
+    static void bad(String text, int code, int position) {
         PawnRace race = new PawnRace();
         Check.fill(race, text);
         Check.illegalArgument("readText of " + text, () -> race.readText());
@@ -64,7 +64,7 @@ public final class TextTest {
     }
 
     /** The error is at the sign ^ in the text, which is left out of it. */
-    private static void bad(String text, int code) {
+    static void bad(String text, int code) {
         bad(text.replace("^", ""), code, text.indexOf('^'));
     }
 
@@ -264,7 +264,7 @@ public final class TextTest {
         Check.due("undo is forgotten", race.undo(), PawnRace.NONE);
     }
 
-    private static void script(String script, String outcome, int code, int position) {
+    static void script(String script, String outcome, int code, int position) {
         PawnRace race = Check.read("pawn a 0 0 north;pawn b 1 0 north;");
         Check.fill(race, script);
         Check.due("runScript of " + script, Check.outcome(race::runScript), outcome);
@@ -273,11 +273,11 @@ public final class TextTest {
         Check.illegalArgument("truncate behind " + script, () -> race.truncate(1));
     }
 
-    private static void goodScript(String script, int done) {
+    static void goodScript(String script, int done) {
         script(script, Integer.toString(done), 0, PawnRace.NONE);
     }
 
-    private static void badScript(String script, int code) {
+    static void badScript(String script, int code) {
         script(script.replace("^", ""), "throws IllegalArgumentException", code, script.indexOf('^'));
     }
 
