@@ -57,18 +57,22 @@ public final class KeepEdgeTest {
     private static PawnRace played(int calls) {
         PawnRace race = Check.read(FOUR);
         for (int call = 0; call < calls; call++) {
-            switch (call) {
-                case 0 -> Check.due("a passes", race.pass(), 1);
-                case 1 -> Check.due("b steps", race.step(1), 1);
-                case 2 -> Check.due("c builds", race.build(1, 1, true), 4);
-                case 3 -> Check.due("d plays", race.play(0, 1), 1);
-                case 4 -> Check.due("a script", Check.run(race, SCRIPT), 4);
-                case 5 -> Check.due("a script that does nothing", Check.run(race, "play 2 1;pass;"), 0);
-                case 6 -> Check.due("play", race.play(1, 2), 2);
-                default -> Check.due("an empty script", Check.run(race, ""), 0);
-            }
+            make(race, call);
         }
         return race;
+    }
+
+    private static void make(PawnRace race, int call) {
+        switch (call) {
+            case 0 -> Check.due("a passes", race.pass(), 1);
+            case 1 -> Check.due("b steps", race.step(1), 1);
+            case 2 -> Check.due("c builds", race.build(1, 1, true), 4);
+            case 3 -> Check.due("d plays", race.play(0, 1), 1);
+            case 4 -> Check.due("a script", Check.run(race, SCRIPT), 4);
+            case 5 -> Check.due("a script that does nothing", Check.run(race, "play 2 1;pass;"), 0);
+            case 6 -> Check.due("play", race.play(1, 2), 2);
+            default -> Check.due("an empty script", Check.run(race, ""), 0);
+        }
     }
 
     /** "the latest first; the latest 6 of them are kept. All of the race is as before it then." */
@@ -97,16 +101,7 @@ public final class KeepEdgeTest {
             race.restore();
             Check.due("nothing to undo", race.undo(), NONE);
             String before = Snapshot.of(race);
-            switch (call) {
-                case 0 -> race.pass();
-                case 1 -> race.step(1);
-                case 2 -> race.build(1, 1, true);
-                case 3 -> race.play(0, 1);
-                case 4 -> Check.run(race, SCRIPT);
-                case 5 -> Check.run(race, "play 2 1;pass;");
-                case 6 -> race.play(1, 2);
-                default -> Check.run(race, "");
-            }
+            make(race, call);
             Check.due("undo of call " + call, race.undo(), 0);
             Check.due("as before", Snapshot.of(race), before);
             Check.due("no more", race.undo(), NONE);

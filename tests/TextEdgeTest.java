@@ -33,8 +33,7 @@ public final class TextEdgeTest {
         oneBehindTheOther();
         shutUp();
         tooMany();
-        badTextChangesNothing();
-        badScriptChangesNothing();
+        errorsChangeNothing();
         goodTextReplaces();
         oneTextBehindAnother();
         oneScriptBehindAnother();
@@ -522,30 +521,19 @@ public final class TextEdgeTest {
         Check.due("the saved race stays", race.restore(), 2);
     }
 
-    /** readText(): "only the buffer, errorCode() and errorPosition() change then"; the buffer is emptied. */
-    private static void badTextChangesNothing() {
+    /** readText() and runScript(): "only the buffer, errorCode() and errorPosition() change then". */
+    private static void errorsChangeNothing() {
         String[] texts = {"?", "board 9 9;pawn a 0 0 north;pawn a", "board 2 2;",
             "board 3 3;walls 9;block 0 0 level;block", "board 3 3;block 0 0 level;;",
             "pawn x 3 3 west;pawn y 2 2 west;ban x back;ban y again;ban z back;"};
-        for (String text : texts) {
-            PawnRace race = used();
-            String before = Snapshot.of(race);
-            Check.fill(race, text);
-            Check.illegalArgument("readText of " + text, race::readText);
-            Check.due("errorCode is told", race.errorCode() > 0, true);
-            isAsUsed(race, before, 2);
-        }
-    }
-
-    /** runScript(): the same; not one command is done. */
-    private static void badScriptChangesNothing() {
         String[] scripts = {"?", "step south;step", "step south;play 0 100;", "play 0 3;repeat 2 (pass;",
             "repeat 1(repeat 1(repeat 1();););", "pass;".repeat(31)};
-        for (String script : scripts) {
+        for (int i = 0; i < texts.length + scripts.length; i++) {
+            boolean isText = i < texts.length;
             PawnRace race = used();
             String before = Snapshot.of(race);
-            Check.fill(race, script);
-            Check.illegalArgument("runScript of " + script, race::runScript);
+            Check.fill(race, isText ? texts[i] : scripts[i - texts.length]);
+            Check.illegalArgument("text " + i, () -> isText ? race.readText() : race.runScript());
             Check.due("errorCode is told", race.errorCode() > 0, true);
             isAsUsed(race, before, 2);
         }
