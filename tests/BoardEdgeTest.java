@@ -26,6 +26,7 @@ public final class BoardEdgeTest {
         pawnsAndBansDoNotMatter();
         regions();
         stepsAndJumps();
+        jumpsAtEachCell();
         finishedIsOnNoCell();
         banned();
         noneAheadOfTheFirst();
@@ -310,6 +311,33 @@ public final class BoardEdgeTest {
             goes("the last cell", edge + "pawn b 2 2 north;", d, 1);
             goes("no next cell", last + "pawn c 2 2 north;", d, 0);
         }
+    }
+
+    /** "to the cell behind that one in the same direction, if there is one": over a pawn at each cell of a board. */
+    private static void jumpsAtEachCell() {
+        for (int[] size : new int[][] {{3, 3}, {4, 6}, {9, 9}}) {
+            for (int at = 0; at < size[0] * size[1] * 4; at++) {
+                int d = at % 4;
+                int x = at / 4 % size[0];
+                int y = at / 4 / size[0];
+                int nextX = x + DX[d];
+                int nextY = y + DY[d];
+                if (nextX < 0 || nextX >= size[0] || nextY < 0 || nextY >= size[1]) {
+                    continue;
+                }
+                int farX = nextX + DX[d];
+                int farY = nextY + DY[d];
+                boolean isFar = farX >= 0 && farX < size[0] && farY >= 0 && farY < size[1];
+                goes("over " + nextX + ", " + nextY, "board " + size[0] + " " + size[1] + ";"
+                    + pawnAt("a", x, y, size) + pawnAt("b", nextX, nextY, size), d, isFar ? 2 : 0);
+            }
+        }
+    }
+
+    /** The statement of a pawn that races to some side at which its cell does not lie. */
+    private static String pawnAt(String name, int x, int y, int[] size) {
+        String side = y < size[1] - 1 ? "north" : x < size[0] - 1 ? "east" : "south";
+        return "pawn " + name + " " + x + " " + y + " " + side + ";";
     }
 
     /** The first pawn goes so many cells by a step in a direction; 0 if it cannot make it. */
